@@ -7,6 +7,7 @@ public final class AllEdgesTest {
         variance();
         rank();
         widest();
+        everyPair();
         Check.end("AllEdgesTest");
     }
 
@@ -142,6 +143,37 @@ public final class AllEdgesTest {
         Check.due(31, "rank(15)", x.rank(15), Check.BAD);
         x.gone(30);
         Check.due(31, "rank(14), 30 EDGES", x.rank(14), Check.BAD);
+    }
+
+    /** EDGES of no order at all: each pair of them, and each SPAN, as the Oracle has it. */
+    private static void everyPair() {
+        PeriodGates x = new PeriodGates();
+        Oracle o = new Oracle();
+        for (int fine : new int[] {7, 19, 20, 44, 58}) {
+            x.cut(fine);
+            o.cut(fine);
+        }
+        for (int k = 0; k < 20; k++) {
+            int time = k * k * 977 % 5987;
+            Check.due(2, "edge(" + time + ")", x.edge(time), o.edge(time));
+        }
+        for (int mend = 0; mend <= 1; mend++) {
+            x.mend(mend);
+            o.mend(mend);
+            for (int i = 0; i < 20; i++) {
+                for (int j = i + 1; j < 20; j++) {
+                    String pair = "(" + i + ", " + j;
+                    Check.due(27, "fit" + pair + ", 0)", x.fit(i, j, 0), o.fit(i, j, 0));
+                    Check.due(27, "fit" + pair + ", 1)", x.fit(i, j, 1), o.fit(i, j, 1));
+                    Check.due(28, "off" + pair + ")", x.off(i, j), o.off(i, j));
+                }
+            }
+        }
+        for (int k = 0; k < 15; k++) {
+            Check.due(30, "variance(" + (k + 1) + ", 0)", x.variance(k + 1, 0), o.variance(k + 1, 0));
+            Check.due(30, "variance(" + (k + 1) + ", 1)", x.variance(k + 1, 1), o.variance(k + 1, 1));
+            Check.due(31, "rank(" + k + ")", x.rank(k), o.rank(k));
+        }
     }
 
     /** As many EDGES and HITS as there can be, as far apart as they can be: nothing may wrap. */

@@ -5,6 +5,8 @@ public final class DigestTest {
     public static void main(String[] args) {
         ofNewObject();
         ofThreeEdges();
+        ofFewEdges();
+        ofLongChains();
         changesNothing();
         ofSheetsNothing();
         Check.end("DigestTest");
@@ -62,6 +64,33 @@ public final class DigestTest {
             .and(64800, 1).times(14, not, not)
             .and(1);
         Check.due(41, "digest() of three EDGES", x.digest(), due.h);
+    }
+
+    /** One EDGE has no FIT; two have one. */
+    private static void ofFewEdges() {
+        PeriodGates x = new PeriodGates();
+        Oracle o = new Oracle();
+        for (int time : new int[] {100, 250, 3000}) {
+            x.edge(time);
+            o.edge(time);
+            Check.due(41, "digest() up to the EDGE at " + time, x.digest(), o.digest());
+        }
+    }
+
+    /** COARSE 0 on: chains of 2, 3 and 4, and of 6, 7 and 8, are all unlike. */
+    private static void ofLongChains() {
+        PeriodGates x = new PeriodGates();
+        Oracle o = new Oracle();
+        x.edges(0, 60, 32);
+        o.edges(0, 60, 32);
+        Check.due(41, "digest() of 32 EDGES", x.digest(), o.digest());
+        x.gone(20);
+        o.gone(20);
+        x.nominal(30);
+        o.nominal(30);
+        x.mend(1);
+        o.mend(1);
+        Check.due(41, "digest() of 31 EDGES, mended", x.digest(), o.digest());
     }
 
     private static void changesNothing() {

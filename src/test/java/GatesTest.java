@@ -3,6 +3,7 @@ public final class GatesTest {
     public static void main(String[] args) {
         gateAndBack();
         where();
+        whereAnew();
         frequency();
         closing();
         chain();
@@ -71,6 +72,23 @@ public final class GatesTest {
         Check.due(23, "where(0, 3)", x.where(0, 3), Check.BAD);
     }
 
+    /** Each change is seen by the call behind it, though there was one ahead of it. */
+    private static void whereAnew() {
+        PeriodGates x = new PeriodGates();
+        x.edges(0, 100, 5);
+        x.gate(0, 100);
+        whereIs(x, 0, 0, 1, 1);
+        x.gate(150, 301);
+        whereIs(x, 1, 2, 4, 2);
+        x.back();
+        x.gate(401, 402);
+        whereIs(x, 1, -1, -1, -1);
+        x.edge(405);
+        whereIs(x, 1, 5, -1, -1);
+        x.gone(0);
+        whereIs(x, 0, 0, -1, -1);
+    }
+
     private static void frequencyIs(PeriodGates x, int g, int of, long above, long below) {
         Check.due(24, "frequency(" + g + ", " + of + ", 0)", x.frequency(g, of, 0), above);
         Check.due(24, "frequency(" + g + ", " + of + ", 1)", x.frequency(g, of, 1), below);
@@ -106,6 +124,9 @@ public final class GatesTest {
         frequencyIs(x, 1, 1, 1, 19);
         frequencyIs(x, 1, 2, not, not);
         frequencyIs(x, 1, 3, 1, 10);
+        x.clear();
+        Check.edgesAt(x, 4, 5);
+        frequencyIs(x, 1, 3, 1, 1);
         int[][] wrong = {{-1, 0, 0}, {2, 0, 0}, {0, -1, 0}, {0, 4, 0}, {0, 0, -1}, {0, 0, 2}};
         for (int[] w : wrong) {
             Check.due(24, "frequency, BAD", x.frequency(w[0], w[1], w[2]), bad);

@@ -10,6 +10,7 @@ public final class HowSeenTest {
         noReference();
         stamp();
         reference();
+        seenAnew();
         Check.end("HowSeenTest");
     }
 
@@ -204,7 +205,10 @@ public final class HowSeenTest {
         Check.due(20, "reference(0), NOMINAL", x.reference(0), 77);
         Check.due(20, "reference(1), NOMINAL", x.reference(1), 1);
         x.nominal(0);
-        Check.edgesAt(x, 100, 300, 600);
+        x.edge(100);
+        Check.due(20, "reference(0), of one", x.reference(0), 60);
+        Check.due(20, "reference(1), of one", x.reference(1), 1);
+        Check.edgesAt(x, 300, 600);
         // GAPS 60, 240, 300
         Check.due(20, "reference(0), of three", x.reference(0), 240);
         x.edge(700);
@@ -224,5 +228,36 @@ public final class HowSeenTest {
         x.nominal(6);
         Check.due(20, "reference(0), NOMINAL with BINS", x.reference(0), 6);
         Check.due(20, "reference(1), NOMINAL with BINS", x.reference(1), 1);
+        PeriodGates y = new PeriodGates();
+        Check.edgesAt(y, 0, 360, 660, 900, 1080, 1200);
+        // GAPS 360, 300, 240, 180, 120
+        Check.due(20, "reference(0), GAPS in falling order", y.reference(0), 240);
+        y.gone(5);
+        Check.due(20, "reference(0), GAPS in falling order", y.reference(0), 240);
+        y.gone(4);
+        Check.due(20, "reference(0), GAPS in falling order", y.reference(0), 300);
+    }
+
+    /** Each change is seen by the call behind it, though there was one ahead of it. */
+    private static void seenAnew() {
+        PeriodGates x = new PeriodGates();
+        Check.type(x, "dense");
+        x.cut(30);
+        x.edge(0);
+        stampIs(x, 0, 15, 1);
+        x.edges(90, 60, 2);
+        Check.due(3, "reference(0) behind edges()", x.reference(0), 60);
+        Check.due(3, "stamp(1, 0) behind edges()", x.stamp(1, 0), 105);
+        x.sweep(30, 3);
+        stampIs(x, 0, 20, 1);
+        x.fresh();
+        stampIs(x, 0, 15, 1);
+        x.hit(59, 1);
+        stampIs(x, 0, 0, 1);
+        x.cut(30);
+        stampIs(x, 0, 30, 1);
+        x.clear();
+        Check.due(5, "reference(0) behind clear()", x.reference(0), Check.far(Check.NOT));
+        Check.due(5, "count(6) behind clear()", x.count(6), 0);
     }
 }

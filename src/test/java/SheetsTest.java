@@ -244,7 +244,12 @@ public final class SheetsTest {
             }
             Check.due(39, "found(form, 0)", x.found(form, 0), 1);
             Check.due(39, "found(form, 1)", x.found(form, 1), 2);
+            x.put(form, form, 0, 10);
+            Check.due(39, "found(form, 1), the first", x.found(form, 1), 0);
+            x.put(form, form, 0, -10);
+            Check.due(39, "found(form, 0), the first", x.found(form, 0), 0);
             x.blank(form, 0);
+            Check.due(39, "found(form, 2), the first", x.found(form, 2), 1);
             x.blank(form, 1);
             x.blank(form, 2);
             Check.due(39, "found(form, 0), some blank", x.found(form, 0), 3);
