@@ -52,6 +52,12 @@ public final class EdgesAndBinsTest {
         PeriodGates y = new PeriodGates();
         Check.due(3, "edges(0, 1, 32)", y.edges(0, 1, 32), 32);
         Check.due(3, "seen(31, 0)", y.seen(31, 0), 31);
+        Check.due(2, "edge(5000) behind 32", y.edge(5000), Check.FULL);
+        y.gate(5000, 5001);
+        Check.due(23, "where(0, 0) behind 32", y.where(0, 0), Check.NONE);
+        Check.due(4, "gone(31) of 32", y.gone(31), 31);
+        Check.due(4, "gone(0) of 31", y.gone(0), 0);
+        Check.due(4, "seen(29, 0)", y.seen(29, 0), 30);
     }
 
     private static void goneAndClear() {

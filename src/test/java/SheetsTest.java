@@ -237,6 +237,13 @@ public final class SheetsTest {
             x.sheet(form, form, 0);
             Check.due(39, "found(form, 0), no items", x.found(form, 0), Check.NONE);
             Check.due(39, "found(form, 2), no items", x.found(form, 2), 0);
+            x.sheet(form, form, 40);
+            x.blank(form, 39);
+            Check.due(39, "found(form, 2), 40 items", x.found(form, 2), 1);
+            Check.due(39, "found(form, 1), 40 items", x.found(form, 1), 0);
+            Check.due(37, "copy(form, 39, form, 0, 1), 40 items", x.copy(form, 39, form, 0, 1), 1);
+            Check.due(37, "copy(form, 0, form, 0, 40), 40 items", x.copy(form, 0, form, 0, 40), 1);
+            Check.due(39, "found(form, 2), 40 items", x.found(form, 2), 2);
             x.sheet(form, form, 6);
             int[] items = {4, -3, 9, -3, 9, 4};
             for (int i = 0; i < items.length; i++) {
