@@ -42,6 +42,12 @@ final class Check {
         }
     }
 
+    static PeriodGates withEdges(int... times) {
+        PeriodGates x = new PeriodGates();
+        edgesAt(x, times);
+        return x;
+    }
+
     static void end(String test) {
         System.out.println(test + ": " + asked + " looked at, " + wrong + " wrong");
         if (wrong != 0) {
